@@ -1084,7 +1084,7 @@ public final class KissesOwed {
         }
 
         boolean friendly(int one, int other) {
-            return !shuns(one, other) && !shuns(other, one);
+            return !has(at(unwillings, one), other) && !has(at(unwillings, other), one);
         }
 
         boolean wouldBePaid(int paper) {
@@ -1219,22 +1219,17 @@ public final class KissesOwed {
             for (int i = 0; i < n; i++) {
                 int due = dueToday();
                 for (int p = 0; p < papers; p++) {
-                    if (has(due, p)) {
-                        fallDue(p);
+                    boolean falls = has(due, p);
+                    if (falls && wouldBePaid(p)) {
+                        increase(kissed, at(holders, p), at(quarters, p));
+                        put(states, p, PAID);
+                    } else if (falls) {
+                        put(states, p, LOST);
                     }
                 }
                 day++;
             }
             return true;
-        }
-
-        private void fallDue(int paper) {
-            if (wouldBePaid(paper)) {
-                increase(kissed, at(holders, paper), at(quarters, paper));
-                put(states, paper, PAID);
-            } else {
-                put(states, paper, LOST);
-            }
         }
 
         /** The DAY on which just these papers fell due is as it was. */
@@ -1321,7 +1316,6 @@ public final class KissesOwed {
         private static final int NO_FAULT = -1;
         private final int[] letters = new int[MOST_LETTERS];
         private int size;
-        private int statements;
         private final World draft = new World();
 
         int size() {
@@ -1338,14 +1332,20 @@ public final class KissesOwed {
         /** How many STATEMENTS came, or the FAULT; the letters are no more then. */
         int tell(World world) {
             int unfit = firstUnfit();
-            draft.copyFrom(world);
-            int wrong = unfit == NO_FAULT ? firstWrong() : NO_FAULT;
+            int end = size;
             size = 0;
             if (unfit != NO_FAULT) {
                 return UNFIT - unfit;
             }
-            if (wrong != NO_FAULT) {
-                return WRONG - wrong;
+            draft.copyFrom(world);
+            int statements = 0;
+            int start = 0;
+            for (int round = 0; round < MOST_LETTERS && start < end; round++) {
+                if (!comes(start)) {
+                    return WRONG - start;
+                }
+                statements++;
+                start += formOf(at(letters, start)).length();
             }
             world.copyFrom(draft);
             return statements;
@@ -1398,20 +1398,7 @@ public final class KissesOwed {
             return letter == form;
         }
 
-        /** The place of the first STATEMENT that is not as it must be; those ahead of it come in the draft. */
-        private int firstWrong() {
-            statements = 0;
-            int start = 0;
-            for (int round = 0; round < MOST_LETTERS && start < size; round++) {
-                if (!comes(start)) {
-                    return start;
-                }
-                statements++;
-                start += formOf(at(letters, start)).length();
-            }
-            return NO_FAULT;
-        }
-
+        /** Whether the STATEMENT at a place is as it must be; it comes in the draft then. */
         private boolean comes(int start) {
             switch (at(letters, start)) {
                 case 'p':
