@@ -910,7 +910,10 @@ public final class KissesOwed {
 
     // ---- FITS
 
-    /** The ways in which those from one on can kiss so that each gets what he still wants. */
+    /**
+     * The ways in which those from one on can kiss so that each gets what he still wants. Each one's want and kisses
+     * differ by less than 128, so nothing is left of the number just if nothing is left of each one's want.
+     */
     private static int kissings(World world, int[] told, int n, int one, int wanted) {
         if (one >= n || one >= 4) {
             return wanted == 0 ? 1 : 0;
@@ -918,21 +921,11 @@ public final class KissesOwed {
         int ways = 0;
         int barred = 1 << one | world.unwillingOf(one);
         for (int set = 0; set < 1 << n; set++) {
-            boolean may = (set & barred) == 0 && Integer.bitCount(set) == at(told, one);
-            if (may && allWant(set, n, wanted)) {
+            if ((set & barred) == 0 && Integer.bitCount(set) == at(told, one)) {
                 ways += kissings(world, told, n, one + 1, wanted - oneEach(set, n));
             }
         }
         return ways;
-    }
-
-    private static boolean allWant(int set, int n, int wanted) {
-        for (int i = 0; i < n; i++) {
-            if (has(set, i) && (wanted >> WANTED_BITS * i & 127) == 0) {
-                return false;
-            }
-        }
-        return true;
     }
 
     private static int oneEach(int set, int n) {
