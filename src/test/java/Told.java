@@ -1,0 +1,184 @@
+import java.util.ArrayList;
+import java.util.List;
+import java.util.regex.Matcher;
+import java.util.regex.Pattern;
+
+/**
+ * A run of calls on a new object, told in words with spaces between:
+ * "owe(0,1,40,0,0)=3" a call and what it must answer (without "=": whatever it answers);
+ * "owe(0,1,41,0,0)!-6" a call that must be refused so;
+ * "16*go()" as often; "'p00;p13;'" a STREET that must come, with "=2" as so many STATEMENTS;
+ * "'p60;'~-2000" a STREET that must have that FAULT (no letters may be there ahead of it).
+ *
+ * Behind each refused call and each FAULT, and at the end, all that can be seen must be as if no refused call, no
+ * STREET with a FAULT and no question had been; and just the refused calls must have been counted.
+ */
+final class Told {
+    private static final Pattern WORD = Pattern.compile("(?:(\\d+)\\*)?(?:'([^']*)'|(\\w+\\([-\\d,]*\\)))(?:([=!~])(-?\\d+))?");
+    /** More calls on one object are not promised to be answered. */
+    private static final int MOST_CALLS = 512;
+
+    private static int tests = 0;
+    private static int wrongs = 0;
+
+    private final String name;
+    private final List<Call> all = new ArrayList<>();
+    private final List<Call> needed = new ArrayList<>();
+    private final int[] refused = new int[7];
+
+    private Told(String name) {
+        this.name = name;
+    }
+
+    /** One test: what it looks at, and its run. */
+    static void test(String name, String run) {
+        tests++;
+        Told told = new Told(name);
+        for (String word : run.trim().split("\\s+")) {
+            Matcher m = WORD.matcher(word);
+            if (!m.matches()) {
+                throw new IllegalArgumentException(word);
+            }
+            int times = m.group(1) == null ? 1 : Integer.parseInt(m.group(1));
+            for (int i = 0; i < times; i++) {
+                told.tell(m);
+            }
+        }
+        told.compare("the end");
+    }
+
+    static void wrong(String what) {
+        wrongs++;
+        System.out.println(what);
+    }
+
+    static void due(String what, long got, long due) {
+        if (got != due) {
+            wrong(what + " is " + got + ", due is " + due);
+        }
+    }
+
+    /** Ends the program, with 1 if anything was wrong. */
+    static void end() {
+        System.out.println(wrongs == 0 ? tests + " tests hold" : wrongs + " answers are not as due");
+        if (wrongs != 0) {
+            System.exit(1);
+        }
+    }
+
+    private void tell(Matcher m) {
+        String mark = m.group(4) == null ? "" : m.group(4);
+        int number = m.group(5) == null ? 0 : Integer.parseInt(m.group(5));
+        if (m.group(2) != null) {
+            street(m.group(2), mark, number);
+        } else {
+            call(new Call(m.group(3)), mark, number);
+        }
+    }
+
+    private void street(String text, String mark, int number) {
+        List<Call> calls = new ArrayList<>();
+        for (char letter : text.toCharArray()) {
+            calls.add(new Call("feed(" + (int) letter + ")"));
+        }
+        calls.add(new Call("street()"));
+        long answer = 0;
+        KissesOwed x = replayed(all);
+        for (Call c : calls) {
+            answer = c.on(x);
+        }
+        all.addAll(calls);
+        boolean comes = !mark.equals("~");
+        if (comes) {
+            needed.addAll(calls);
+        }
+        if (mark.isEmpty() ? answer < 1 : answer != number) {
+            wrong(name + ": '" + text + "' answered " + answer + ", due is " + (mark.isEmpty() ? "none" : number));
+        }
+        if (!comes) {
+            compare("'" + text + "'");
+        }
+    }
+
+    private void call(Call call, String mark, int number) {
+        KissesOwed x = replayed(all);
+        long answer = call.on(x);
+        if (!call.changes()) {
+            due(name + ": " + call.text() + ", asked again,", call.on(x), answer);
+        }
+        boolean isRefused = mark.equals("!");
+        long due = isRefused ? call.refusal(number) : number;
+        all.add(call);
+        if (isRefused) {
+            refused[-number]++;
+        } else if (call.changes()) {
+            needed.add(call);
+        }
+        if (!mark.isEmpty() && answer != due) {
+            wrong(name + ": " + call.text() + " answered " + answer + ", due is " + due);
+        }
+        if (isRefused) {
+            compare(call.text());
+        }
+    }
+
+    private KissesOwed replayed(List<Call> calls) {
+        KissesOwed x = new KissesOwed();
+        if (calls.size() > MOST_CALLS / 2) {
+            throw new IllegalArgumentException("too long: " + name);
+        }
+        for (Call c : calls) {
+            c.on(x);
+        }
+        return x;
+    }
+
+    private void compare(String where) {
+        KissesOwed counted = replayed(all);
+        for (int i = 1; i <= 6; i++) {
+            int got = counted.count(10 + i);
+            if (got != refused[i]) {
+                wrong(name + ": behind " + where + " REFUSALS -" + i + " are " + got + ", due are " + refused[i]);
+            }
+        }
+        for (int backs = 0; backs <= 9; backs++) {
+            KissesOwed x = replayed(all);
+            KissesOwed y = replayed(needed);
+            for (int i = 0; i < backs; i++) {
+                same(where + ", back()", x.back(), y.back());
+            }
+            sameLook(where + " and " + backs + " times back()", x, y);
+        }
+        KissesOwed x = replayed(all);
+        KissesOwed y = replayed(needed);
+        same(where + ", fits()", x.fits(), y.fits());
+        same(where + ", judge()", x.judge(), y.judge());
+        same(where + ", street()", x.street(), y.street());
+        sameLook(where + " and street()", x, y);
+        x = replayed(all);
+        y = replayed(needed);
+        same(where + ", restore()", x.restore(), y.restore());
+        sameLook(where + " and restore()", x, y);
+    }
+
+    private void same(String where, long got, long due) {
+        due(name + ": behind " + where, got, due);
+    }
+
+    /** All that can be seen but the REFUSALS. */
+    private void sameLook(String where, KissesOwed x, KissesOwed y) {
+        for (int what = 0; what < 8; what++) {
+            same(where + ", count(" + what + ")", x.count(what), y.count(what));
+        }
+        for (int i = 0; i < y.count(0); i++) {
+            for (int what = 0; what < 5; what++) {
+                same(where + ", person(" + i + "," + what + ")", x.person(i, what), y.person(i, what));
+            }
+        }
+        for (int i = 0; i < y.count(1); i++) {
+            for (int what = 0; what < 7; what++) {
+                same(where + ", paper(" + i + "," + what + ")", x.paper(i, what), y.paper(i, what));
+            }
+        }
+    }
+}
