@@ -90,6 +90,7 @@ public final class BoundariesThree {
         test("RING: who owes into it is not in it", FOUR + "'o030109=;o320109=;o120109=;o210109=;' ring(-1)=2 ring(0)=1 ring(1)=2");
         test("RING: whom nobody of it owes is not in it", "'p00;p00;p00;p00;p00;' 'o030109=;o340109=;o400109=;o140109=;' ring(-1)=3 ring(0)=0 "
                 + "ring(1)=3 ring(2)=4");
+        test("RING: three who owe, no ring", SEVEN + "'o310109=;o200109=;o040109=;' ring(-1)=-9");
         test("RING: a next one that leads to no short ring", FOUR + "'o010109=;o120109=;o230109=;o300109=;o030109=;' ring(-1)=2 "
                 + "ring(0)=0 ring(1)=3");
     }
@@ -318,6 +319,7 @@ public final class BoundariesThree {
         test("AT ONCE: a triangle", THREE + "'o010109=;o120109=;o200109=;' atOnce()=1");
         test("AT ONCE: the middle one not", FOUR + "'o120909=;o010109=;o230109=;' atOnce()=2");
         test("AT ONCE: both ways are one two", TWO + "owe(0,1,5,9,0) owe(1,0,5,9,0) atOnce()=1");
+        test("AT ONCE: behind ROUNDS", THREE + "'o010109=;o120109=;o200109=;' rounds()=3 atOnce()=1 rounds()=3");
         test("AT ONCE: not OPEN", TWO + "owe(0,1,5,0,0) atOnce()=1 go() atOnce()=0");
     }
 

@@ -217,6 +217,8 @@ public final class BoundariesTwo {
         test("SQUARE: all ORDERS alike", THREE + "'o210509=;o200509=;o100509=;' square(0)=15 square(1)=15 soonest(0)=1 soonest(1)=2 "
                 + "soonest(2)=12 soonest(3)=-9");
         test("SQUARE: the lesser number first", SEVEN + "owe(6,5,5,9,0) soonest(0)=56");
+        test("SQUARE: twos that have settled are not asked", THREE + "'o010509=;o120909=;o200109=;' square(1)=16 soonest(2)=12 over(2,2) "
+                + "square(1)=14 soonest(1)=12 soonest(2)=-9 over(0,0) square(1)=9 soonest(0)=12 soonest(1)=-9");
         test("SQUARE: no i below 0", TWO + "soonest(-1)!-4 soonest(-2147483648)!-4 soonest(0)=-9");
         test("SQUARE: i beyond all", TWO + "owe(0,1,5,9,0) soonest(1)=-9 soonest(2147483647)=-9");
     }
@@ -401,6 +403,8 @@ public final class BoundariesTwo {
         test("FITS: UNWILLING does not kiss", TWO + "row(1) row(0) row(0) row(1) unwilling(0,1) fits()=0");
         test("FITS: UNWILLING may be kissed", TWO + "row(0) row(1) row(1) row(0) unwilling(0,1) fits()=1");
         test("FITS: UNWILLING towards one who is not told of", THREE + "4*row(1) unwilling(0,2) unwilling(2,0) fits()=1");
+        test("FITS: what was cleared is not asked", FOUR + "8*row(1) fits()=9 clear() row(1) row(0) row(0) row(1) fits()=1 clear() "
+                + "6*row(1) fits()=2");
         test("FITS: the ROW stays", TWO + "4*row(1) fits()=1 fits()=1 count(6)=4 row(1)=5");
     }
 

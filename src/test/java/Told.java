@@ -10,13 +10,25 @@ import java.util.regex.Pattern;
  * "16*go()" as often; "'p00;p13;'" a STREET that must come, with "=2" as so many STATEMENTS;
  * "'p60;'~-2000" a STREET that must have that FAULT (no letters may be there ahead of it).
  *
- * Behind each refused call and each FAULT, and at the end, all that can be seen must be as if no refused call, no
+ * A question is asked twice, and once on an object that was much used before and RESTORED to nothing; it must answer
+ * the same. Behind each refused call and each FAULT, and at the end, all that can be seen must be as if no refused call, no
  * STREET with a FAULT and no question had been; and just the refused calls must have been counted.
  */
 final class Told {
     private static final Pattern WORD = Pattern.compile("(?:(\\d+)\\*)?(?:'([^']*)'|(\\w+\\([-\\d,]*\\)))(?:([=!~])(-?\\d+))?");
     /** More calls on one object are not promised to be answered. */
     private static final int MOST_CALLS = 512;
+
+    private static final String SEVEN_PEOPLE = "feed(112) feed(48) feed(57) feed(59) feed(112) feed(51) feed(57) feed(59) "
+            + "feed(112) feed(49) feed(57) feed(59) feed(112) feed(48) feed(57) feed(59) feed(112) feed(48) feed(57) feed(59) "
+            + "feed(112) feed(48) feed(57) feed(59) feed(112) feed(48) feed(57) feed(59) street() ";
+    /** Seven twos at first, then nine; all rows within are used, and those of THE SQUARE by six people. */
+    private static final String USE = "image() " + SEVEN_PEOPLE + "unwilling(0,2) unwilling(5,6) owe(1,2,40,0,0) owe(2,1,37,9,1) "
+            + "owe(2,3,40,0,0) owe(3,4,40,98,0) owe(4,5,39,9,0) owe(5,6,40,9,0) owe(6,1,40,9,0) owe(1,0,38,9,0) row(1) row(2) "
+            + "row(2) row(1) row(2) row(1) row(1) row(2) fits() square(1) soonest(6) rounds() atOnce() heaviest(0) hold(1,2) "
+            + "owe(1,3,40,9,0) owe(1,4,36,9,0) payments() through(0) square(0) busiest() swings(1,4) boss(1) corner() comesIn(0) "
+            + "ring(-1) round() stands() bestOver() relieved(1,1) power(1,3,1) atOnce() lots(20,-1) go() over(9,5) feed(112) "
+            + "feed(120) street() clear() restore()";
 
     private static int tests = 0;
     private static int wrongs = 0;
@@ -103,10 +115,13 @@ final class Told {
     private void call(Call call, String mark, int number) {
         KissesOwed x = replayed(all);
         long answer = call.on(x);
+        boolean isRefused = mark.equals("!");
         if (!call.changes()) {
             due(name + ": " + call.text() + ", asked again,", call.on(x), answer);
+            if (!isRefused && !call.text().startsWith("count")) {
+                due(name + ": " + call.text() + " of a used object", call.on(replayed(usedUp(), needed)), answer);
+            }
         }
-        boolean isRefused = mark.equals("!");
         long due = isRefused ? call.refusal(number) : number;
         all.add(call);
         if (isRefused) {
@@ -122,8 +137,20 @@ final class Told {
         }
     }
 
-    private KissesOwed replayed(List<Call> calls) {
+    /** An object on which there was much of all, and much was asked, and of which nothing is left but a new one. */
+    private static KissesOwed usedUp() {
         KissesOwed x = new KissesOwed();
+        for (String word : USE.split(" ")) {
+            new Call(word).on(x);
+        }
+        return x;
+    }
+
+    private KissesOwed replayed(List<Call> calls) {
+        return replayed(new KissesOwed(), calls);
+    }
+
+    private KissesOwed replayed(KissesOwed x, List<Call> calls) {
         if (calls.size() > MOST_CALLS / 2) {
             throw new IllegalArgumentException("too long: " + name);
         }
