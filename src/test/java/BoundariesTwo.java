@@ -219,6 +219,8 @@ public final class BoundariesTwo {
         test("SQUARE: the lesser number first", SEVEN + "owe(6,5,5,9,0) soonest(0)=56");
         test("SQUARE: twos that have settled are not asked", THREE + "'o010509=;o120909=;o200109=;' square(1)=16 soonest(2)=12 over(2,2) "
                 + "square(1)=14 soonest(1)=12 soonest(2)=-9 over(0,0) square(1)=9 soonest(0)=12 soonest(1)=-9");
+        test("SQUARE: one that has settled is not waited for", FOUR + "'o030209=;o320209=;o310609=;o010409=;' square(1)=12 over(1,3)=2 "
+                + "square(1)=12 soonest(0)=1 soonest(1)=3 soonest(2)=13 soonest(3)=-9");
         test("SQUARE: no i below 0", TWO + "soonest(-1)!-4 soonest(-2147483648)!-4 soonest(0)=-9");
         test("SQUARE: i beyond all", TWO + "owe(0,1,5,9,0) soonest(1)=-9 soonest(2147483647)=-9");
     }
