@@ -2,6 +2,7 @@ import java.util.ArrayList;
 import java.util.List;
 import java.util.regex.Matcher;
 import java.util.regex.Pattern;
+import java.util.stream.Stream;
 
 /**
  * A run of calls on a new object, told in words with spaces between:
@@ -10,8 +11,9 @@ import java.util.regex.Pattern;
  * "16*go()" as often; "'p00;p13;'" a STREET that must come, with "=2" as so many STATEMENTS;
  * "'p60;'~-2000" a STREET that must have that FAULT (no letters may be there ahead of it).
  *
- * A question is asked twice, and once on an object that was much used before and RESTORED to nothing; it must answer
- * the same. Behind each refused call and each FAULT, and at the end, all that can be seen must be as if no refused call, no
+ * A question is asked twice, and must answer the same. Each call and each STREET is also made as the last of the 512
+ * calls that an object is used for: those before were of all kinds and came to nothing, then what the run tells. It must
+ * answer there as on a new object. Behind each refused call and each FAULT, and at the end, all that can be seen must be as if no refused call, no
  * STREET with a FAULT and no question had been; and just the refused calls must have been counted.
  */
 final class Told {
@@ -23,12 +25,15 @@ final class Told {
             + "feed(112) feed(49) feed(57) feed(59) feed(112) feed(48) feed(57) feed(59) feed(112) feed(48) feed(57) feed(59) "
             + "feed(112) feed(48) feed(57) feed(59) feed(112) feed(48) feed(57) feed(59) street() ";
     /** Seven twos at first, then nine; all rows within are used, and those of THE SQUARE by six people. */
-    private static final String USE = "image() " + SEVEN_PEOPLE + "unwilling(0,2) unwilling(5,6) owe(1,2,40,0,0) owe(2,1,37,9,1) "
+    private static final String[] USE = (SEVEN_PEOPLE + "unwilling(0,2) unwilling(5,6) owe(1,2,40,0,0) owe(2,1,37,9,1) "
             + "owe(2,3,40,0,0) owe(3,4,40,98,0) owe(4,5,39,9,0) owe(5,6,40,9,0) owe(6,1,40,9,0) owe(1,0,38,9,0) row(1) row(2) "
             + "row(2) row(1) row(2) row(1) row(1) row(2) fits() square(1) soonest(6) rounds() atOnce() heaviest(0) hold(1,2) "
             + "owe(1,3,40,9,0) owe(1,4,36,9,0) payments() through(0) square(0) busiest() swings(1,4) boss(1) corner() comesIn(0) "
-            + "ring(-1) round() stands() bestOver() relieved(1,1) power(1,3,1) atOnce() lots(20,-1) go() over(9,5) feed(112) "
-            + "feed(120) street() clear() restore()";
+            + "ring(-1) round() stands() bestOver() relieved(1,1) power(1,3,1) atOnce() lots(20,-1) go() over(9,5) go() "
+            + "back() person(3,3) chain(4,5) paidBy(98) trade(1,3) feed(-1) feed(256) owe(0,0,1,1,0) owe(0,1,1,1,2) over(0,2) "
+            + "judge() row(99) feed(112) feed(120) street() clear() restore()").split(" ");
+
+    private static final Call[] USE_CALLS = Stream.of(USE).map(Call::new).toArray(Call[]::new);
 
     private static int tests = 0;
     private static int wrongs = 0;
@@ -99,6 +104,7 @@ final class Told {
         for (Call c : calls) {
             answer = c.on(x);
         }
+        due(name + ": '" + text + "' as the last STREET", atLast(calls), answer);
         all.addAll(calls);
         boolean comes = !mark.equals("~");
         if (comes) {
@@ -118,9 +124,9 @@ final class Told {
         boolean isRefused = mark.equals("!");
         if (!call.changes()) {
             due(name + ": " + call.text() + ", asked again,", call.on(x), answer);
-            if (!isRefused && !call.text().startsWith("count")) {
-                due(name + ": " + call.text() + " of a used object", call.on(replayed(usedUp(), needed)), answer);
-            }
+        }
+        if (!isOfTheWholeUse(call)) {
+            due(name + ": " + call.text() + " as the last call", atLast(List.of(call)), answer);
         }
         long due = isRefused ? call.refusal(number) : number;
         all.add(call);
@@ -137,20 +143,36 @@ final class Told {
         }
     }
 
-    /** An object on which there was much of all, and much was asked, and of which nothing is left but a new one. */
-    private static KissesOwed usedUp() {
+    /** What an object was used for may be seen by how many REFUSALS there were, and by its having an IMAGE. */
+    private boolean isOfTheWholeUse(Call call) {
+        boolean imaged = needed.stream().anyMatch(c -> c.text().equals("image()"));
+        return call.text().startsWith("count(1") && call.text().length() > "count(1)".length()
+                || call.text().equals("restore()") && !imaged;
+    }
+
+    /** What the last of these calls answers if they are made behind what is needed, and it is the 512th. */
+    private long atLast(List<Call> calls) {
         KissesOwed x = new KissesOwed();
-        for (String word : USE.split(" ")) {
-            new Call(word).on(x);
+        int before = MOST_CALLS - needed.size() - calls.size();
+        if (before < 2 * USE.length) {
+            throw new IllegalArgumentException("too long: " + name);
         }
-        return x;
+        x.image();
+        for (int i = 1; i < before; i++) {
+            USE_CALLS[Math.floorMod(i - before, USE.length)].on(x);
+        }
+        long answer = 0;
+        for (Call c : needed) {
+            c.on(x);
+        }
+        for (Call c : calls) {
+            answer = c.on(x);
+        }
+        return answer;
     }
 
     private KissesOwed replayed(List<Call> calls) {
-        return replayed(new KissesOwed(), calls);
-    }
-
-    private KissesOwed replayed(KissesOwed x, List<Call> calls) {
+        KissesOwed x = new KissesOwed();
         if (calls.size() > MOST_CALLS / 2) {
             throw new IllegalArgumentException("too long: " + name);
         }
